@@ -23,6 +23,8 @@ public final class DiscMaker {
     private static final int SL = 'S' << 8 | 'L';
     private static final int CE = 'C' << 8 | 'E';
     private static final int PX_BYTES = 36, CE_BYTES = 28;
+    private static final int SORT_BITS = 61440, DIRECTORY_BITS = 16384, FILE_BITS = 32768, LINK_BITS = 40960;
+    private static final int PERMISSIONS = 4096;
 
     private static final int MAX_TEXT = 400;
     private static final int MAX_NAME = 30;
@@ -132,7 +134,7 @@ public final class DiscMaker {
         if (n < 0 || n > image.length / SECTOR) {
             return false;
         }
-        image.length = n * SECTOR;
+        image.shorten(n * SECTOR);
         return true;
     }
 
@@ -308,23 +310,28 @@ public final class DiscMaker {
             length = n;
         }
 
+        void shorten(int n) {
+            length = n;
+        }
+
         boolean has(int i) {
             return i >= 0 && i < length;
         }
 
         int at(int i) {
-            return has(i) ? row[i] & 255 : 0;
+            return i >= 0 && i < length ? row[i] & 255 : 0;
         }
 
         void put(int i, int value) {
-            if (has(i)) {
+            if (i >= 0 && i < length) {
                 row[i] = (byte) value;
             }
         }
 
+        /** Where the new bytes begin, which are 0. */
         int extend(int n) {
             int begin = length;
-            length = Math.min(length + n, row.length);
+            length = length + n > row.length ? row.length : length + n;
             for (int i = begin; i < length; i++) {
                 row[i] = 0;
             }
@@ -435,8 +442,11 @@ public final class DiscMaker {
             }
         }
 
-        void setNumberedKey(int n) {
-            int at = Math.min(KEPT_OF_BASE, lengthOf(0, BASE));
+        int keptOfBase() {
+            return Math.min(KEPT_OF_BASE, lengthOf(0, BASE));
+        }
+
+        void setNumberedKey(int at, int n) {
             key[at] = (byte) ('0' + n / 100 % 10);
             key[at + 1] = (byte) ('0' + n / 10 % 10);
             key[at + 2] = (byte) ('0' + n % 10);
@@ -575,8 +585,9 @@ public final class DiscMaker {
         /** Nodes never leave and lower numbers come first, so an identifier is settled once and for all. */
         private void makeDifferent(Node fresh) {
             fresh.setPlainKey();
+            int kept = fresh.keptOfBase();
             for (int n = 0; n < 1000 && isTaken(fresh); n++) {
-                fresh.setNumberedKey(n);
+                fresh.setNumberedKey(kept, n);
             }
         }
 
@@ -665,7 +676,7 @@ public final class DiscMaker {
         private int kept;
 
         void clear() {
-            parts.length = 0;
+            parts.shorten(0);
             count = 0;
             kept = 0;
         }
@@ -697,7 +708,7 @@ public final class DiscMaker {
 
         void addOwnership(Node n, int links) {
             int at = open(PX, PX_BYTES);
-            parts.putBoth(at + 4, modeBits(n.sort) + n.mode % 4096, 4);
+            parts.putBoth(at + 4, modeBits(n.sort) + n.mode % PERMISSIONS, 4);
             parts.putBoth(at + 12, links, 4);
             parts.putBoth(at + 20, n.owner, 4);
             parts.putBoth(at + 28, n.group, 4);
@@ -749,7 +760,8 @@ public final class DiscMaker {
 
         private int open(int letters, int bytes) {
             int at = parts.extend(bytes);
-            parts.putHigh(at, letters, 2);
+            parts.put(at, letters >> 8);
+            parts.put(at + 1, letters);
             parts.put(at + 3, 1);
             return at;
         }
@@ -763,7 +775,7 @@ public final class DiscMaker {
         }
 
         private static int modeBits(int sort) {
-            return sort == DIRECTORY ? 16384 : sort == FILE ? 32768 : 40960;
+            return sort == DIRECTORY ? DIRECTORY_BITS : sort == FILE ? FILE_BITS : LINK_BITS;
         }
     }
 
@@ -789,6 +801,7 @@ public final class DiscMaker {
             this.image = image;
         }
 
+        /** How many bytes the SL of a target has. */
         int linkPartBytes(byte[] row) {
             use.clear();
             use.addTarget(row);
@@ -800,28 +813,38 @@ public final class DiscMaker {
             second.arrange(tree);
             writing = false;
             runAt = 0;
-            int next = placeDirectories(first, FIRST_DIRECTORY);
-            next = placeDirectories(second, next);
-            int continuation = next;
-            next = placeContents(continuation + sectorsFor(runAt));
-            image.reset(next * SECTOR);
+            int middle = walk(first, FIRST_DIRECTORY);
+            int continuation = walk(second, middle);
+            int total = placeContents(continuation + sectorsFor(runAt));
+            image.reset(total * SECTOR);
             writing = true;
             runAt = continuation * SECTOR;
-            writeTree(first);
-            writeTree(second);
+            walk(first, FIRST_DIRECTORY);
+            walk(second, middle);
+            writeDescriptor(first, writePathTables(first));
+            writeDescriptor(second, writePathTables(second));
             writeDescriptorHead(FIRST_DESCRIPTOR + 2, LAST_SORT);
             writeContents();
-            return next;
+            return total;
         }
 
-        private int placeDirectories(Layout layout, int from) {
+        /** Where the directories end; on the second walk all lie where the first one put them. */
+        private int walk(Layout layout, int from) {
             int next = from;
             for (int i = 0; i < layout.directories; i++) {
-                int n = layout.path[i];
-                layout.begin[n] = next;
-                walk(layout, tree.nodes[n]);
-                layout.extent[n] = sectorsFor(recordAt) - next;
-                next += layout.extent[n];
+                Node directory = tree.nodes[layout.path[i]];
+                recordAt = next * SECTOR;
+                passRecord(layout, directory, SELF);
+                passRecord(layout, tree.nodes[directory.parent], PARENT);
+                for (int j = 0; j < layout.count; j++) {
+                    Node child = tree.nodes[layout.order[j]];
+                    if (child.parent == directory.number) {
+                        passRecord(layout, child, CHILD);
+                    }
+                }
+                layout.begin[directory.number] = next;
+                layout.extent[directory.number] = sectorsFor(recordAt) - next;
+                next = sectorsFor(recordAt);
             }
             return next;
         }
@@ -851,26 +874,6 @@ public final class DiscMaker {
             return n;
         }
 
-        private void writeTree(Layout layout) {
-            int bytes = writePathTables(layout);
-            writeDescriptor(layout, bytes);
-            for (int i = 0; i < layout.directories; i++) {
-                walk(layout, tree.nodes[layout.path[i]]);
-            }
-        }
-
-        private void walk(Layout layout, Node directory) {
-            recordAt = layout.begin[directory.number] * SECTOR;
-            passRecord(layout, directory, SELF);
-            passRecord(layout, tree.nodes[directory.parent], PARENT);
-            for (int i = 0; i < layout.count; i++) {
-                Node child = tree.nodes[layout.order[i]];
-                if (child.parent == directory.number) {
-                    passRecord(layout, child, CHILD);
-                }
-            }
-        }
-
         private void passRecord(Layout layout, Node n, int role) {
             identify(layout, n, role);
             int head = even(33 + identifier.length);
@@ -895,7 +898,7 @@ public final class DiscMaker {
         }
 
         private void identify(Layout layout, Node n, int role) {
-            identifier.length = 0;
+            identifier.shorten(0);
             if (role != CHILD) {
                 identifier.put(identifier.extend(1), role);
             } else if (layout.longNames) {
@@ -1096,10 +1099,13 @@ public final class DiscMaker {
             int to = end;
             for (int run = 0; run <= MAX_CONTINUATIONS; run++) {
                 lastContinuation = NONE;
-                for (int at = from; at + 4 <= to; at += image.at(at + 2)) {
-                    if (!takePart(at, to)) {
+                int at = from;
+                while (at + 4 <= to) {
+                    int bytes = image.at(at + 2);
+                    if (bytes < 4 || at + bytes > to || !takePart(at, bytes)) {
                         return at;
                     }
+                    at += bytes;
                 }
                 if (lastContinuation == NONE) {
                     break;
@@ -1110,14 +1116,13 @@ public final class DiscMaker {
             if (topAlone) {
                 found.addToTarget('/');
             }
+            if ((found.mode & SORT_BITS) == LINK_BITS) {
+                found.sort = LINK;
+            }
             return NONE;
         }
 
-        private boolean takePart(int at, int to) {
-            int bytes = image.at(at + 2);
-            if (bytes < 4 || at + bytes > to) {
-                return false;
-            }
+        private boolean takePart(int at, int bytes) {
             switch (image.at(at) << 8 | image.at(at + 1)) {
                 case NM: return takeName(at, bytes);
                 case PX: return takeOwnership(at, bytes);
@@ -1165,7 +1170,10 @@ public final class DiscMaker {
                 if (next + 2 + length > end || !isComponent(marks, length)) {
                     return false;
                 }
-                takeComponent(marks, next + 2, length);
+                startComponent(marks);
+                for (int i = 0; i < length; i++) {
+                    found.addToTarget(image.at(next + 2 + i));
+                }
                 next += 2 + length;
             }
             return !found.isTargetTooLong();
@@ -1175,18 +1183,18 @@ public final class DiscMaker {
             return marks == 0 || length == 0 && (marks == HERE || marks == UP || marks == TOP);
         }
 
-        private void takeComponent(int marks, int at, int length) {
+        private void startComponent(int marks) {
             topAlone = components == 0 && marks == TOP;
             if (components > 0) {
                 found.addToTarget('/');
             }
-            components++;
-            for (int dots = marks == TOP ? 0 : marks / HERE; dots > 0; dots--) {
+            if (marks == HERE || marks == UP) {
                 found.addToTarget('.');
             }
-            for (int i = 0; i < length; i++) {
-                found.addToTarget(image.at(at + i));
+            if (marks == UP) {
+                found.addToTarget('.');
             }
+            components++;
         }
 
         private boolean takeContinuation(int at, int bytes) {
@@ -1295,10 +1303,15 @@ public final class DiscMaker {
                     at += SECTOR - at % SECTOR;
                     continue;
                 }
-                if (!isRecord(at)) {
+                if (!isRecord(at) || !(records < 2 ? isOwnRecord(k, at, records) : addNode(k, at))) {
                     return at;
                 }
-                int place = records < 2 ? passOwnRecord(k, at, records) : takeNode(k, at);
+                int place = NONE;
+                if (records >= 2) {
+                    place = describe(rows[count - 1], at);
+                } else if (k == 0 && records == 0) {
+                    place = describeRoot(at);
+                }
                 if (place != NONE) {
                     return place;
                 }
@@ -1337,32 +1350,20 @@ public final class DiscMaker {
             return image.low(at + 10, 4);
         }
 
-        private int passOwnRecord(int k, int at, int identifier) {
+        private boolean isOwnRecord(int k, int at, int identifier) {
             if (image.at(at + 32) != 1 || image.at(at + 33) != identifier || !isDirectory(at)) {
-                return at;
+                return false;
             }
-            if (identifier == 1) {
-                return NONE;
-            }
-            if (sectorAt(at) != rows[k].sector) {
-                return at;
-            }
-            return k == 0 && view == OWNERS ? takeParts(rows[0], at) : NONE;
+            return identifier == 1 || sectorAt(at) == rows[k].sector;
         }
 
-        private int takeNode(int in, int at) {
+        private boolean addNode(int in, int at) {
             int depth = rows[in].depth + 1;
             if (count == MAX_FOUND || isDirectory(at) && (depth > MAX_FOUND_DEPTH || isTaken(sectorAt(at)))) {
-                return at;
+                return false;
             }
-            Found fresh = addRow(in, depth, at);
-            if (view == LONG) {
-                return takeLongName(fresh, at) ? NONE : at;
-            }
-            if (view == OWNERS) {
-                return takeParts(fresh, at);
-            }
-            return takeShortName(fresh, at) ? NONE : at;
+            addRow(in, depth, at);
+            return true;
         }
 
         private boolean isTaken(int sector) {
@@ -1375,14 +1376,13 @@ public final class DiscMaker {
         }
 
         /** Rows are made once and used again by every reading. */
-        private Found addRow(int in, int depth, int at) {
+        private void addRow(int in, int depth, int at) {
             if (rows[count] == null) {
                 rows[count] = new Found();
             }
             Found fresh = rows[count];
             count++;
             fresh.begin(in, depth, isDirectory(at), sizeAt(at), sectorAt(at));
-            return fresh;
         }
 
         private boolean takeShortName(Found fresh, int at) {
@@ -1411,20 +1411,30 @@ public final class DiscMaker {
             return bytes % 2 == 0 && !fresh.isNameTooLong();
         }
 
-        private int takeParts(Found fresh, int at) {
-            int begin = at + even(33 + image.at(at + 32));
-            int place = parts.goThrough(fresh, begin, at + image.at(at));
-            if (place != NONE) {
-                return place;
+        /** Gives a node its name and, in the owner's view, what else its record tells. */
+        private int describe(Found fresh, int at) {
+            if (view == LONG) {
+                return takeLongName(fresh, at) ? NONE : at;
             }
-            if ((fresh.mode & 61440) == 40960) {
-                fresh.sort = LINK;
+            if (view == OWNERS) {
+                int begin = at + even(33 + image.at(at + 32));
+                int place = parts.goThrough(fresh, begin, at + image.at(at));
+                if (place != NONE || parts.named) {
+                    return place;
+                }
             }
-            if (fresh == rows[0]) {
-                fresh.nameLength = 0;
-                return NONE;
+            return takeShortName(fresh, at) ? NONE : at;
+        }
+
+        /** The root has no record in a parent: only the owner's view learns of it, by its record of itself. */
+        private int describeRoot(int at) {
+            int place = NONE;
+            if (view == OWNERS) {
+                int begin = at + even(33 + image.at(at + 32));
+                place = parts.goThrough(rows[0], begin, at + image.at(at));
             }
-            return parts.named || takeShortName(fresh, at) ? NONE : at;
+            rows[0].nameLength = 0;
+            return place;
         }
     }
 }
