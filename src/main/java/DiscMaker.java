@@ -376,16 +376,22 @@ public final class DiscMaker {
         }
 
         int low(int at, int width) {
+            if (at < 0 || at + width > length) {
+                return 0;
+            }
             int value = 0;
             for (int i = 0; i < width; i++) {
-                value |= at(at + i) << 8 * i;
+                value |= (row[at + i] & 255) << 8 * i;
             }
             return value;
         }
 
         boolean halvesAgree(int at, int width) {
+            if (at < 0 || at + 2 * width > length) {
+                return false;
+            }
             for (int i = 0; i < width; i++) {
-                if (at(at + i) != at(at + 2 * width - 1 - i)) {
+                if (row[at + i] != row[at + 2 * width - 1 - i]) {
                     return false;
                 }
             }
@@ -450,9 +456,6 @@ public final class DiscMaker {
             key[at] = (byte) ('0' + n / 100 % 10);
             key[at + 1] = (byte) ('0' + n / 10 % 10);
             key[at + 2] = (byte) ('0' + n % 10);
-            for (int i = at + 3; i < BASE; i++) {
-                key[i] = ' ';
-            }
         }
 
         boolean isAlike(Node other) {
@@ -1170,10 +1173,17 @@ public final class DiscMaker {
                 if (next + 2 + length > end || !isComponent(marks, length)) {
                     return false;
                 }
-                startComponent(marks);
+                topAlone = components == 0 && marks == TOP;
+                if (components > 0) {
+                    found.addToTarget('/');
+                }
+                for (int dots = dotsOf(marks); dots > 0; dots--) {
+                    found.addToTarget('.');
+                }
                 for (int i = 0; i < length; i++) {
                     found.addToTarget(image.at(next + 2 + i));
                 }
+                components++;
                 next += 2 + length;
             }
             return !found.isTargetTooLong();
@@ -1183,18 +1193,8 @@ public final class DiscMaker {
             return marks == 0 || length == 0 && (marks == HERE || marks == UP || marks == TOP);
         }
 
-        private void startComponent(int marks) {
-            topAlone = components == 0 && marks == TOP;
-            if (components > 0) {
-                found.addToTarget('/');
-            }
-            if (marks == HERE || marks == UP) {
-                found.addToTarget('.');
-            }
-            if (marks == UP) {
-                found.addToTarget('.');
-            }
-            components++;
+        private static int dotsOf(int marks) {
+            return marks == HERE ? 1 : marks == UP ? 2 : 0;
         }
 
         private boolean takeContinuation(int at, int bytes) {
@@ -1430,8 +1430,7 @@ public final class DiscMaker {
         private int describeRoot(int at) {
             int place = NONE;
             if (view == OWNERS) {
-                int begin = at + even(33 + image.at(at + 32));
-                place = parts.goThrough(rows[0], begin, at + image.at(at));
+                place = parts.goThrough(rows[0], at + 34, at + image.at(at));
             }
             rows[0].nameLength = 0;
             return place;

@@ -16,6 +16,7 @@ public final class MasterTest {
         partsThatJustFit();
         continuationOverSectors();
         directoriesOfSeveralSectors();
+        sectorsThatAreJustFull();
         contents();
         inPlaceOfTheOneBefore();
         Check.finish();
@@ -328,7 +329,8 @@ public final class MasterTest {
             d.x.master();
             boolean fits = 38 + 36 + 6 + 7 + length <= 254;
             Check.same("target of " + length, d.parts(d.record(23, 2)), fits ? "PXNMSL" : "PXNMCE");
-            Check.same("record of " + length, d.x.byteAt(d.record(23, 2)), fits ? (87 + length + 1) / 2 * 2 : 38 + 42 + 28);
+            int bytes = fits ? (87 + length + 1) / 2 * 2 : 38 + 42 + 28;
+            Check.same("record of " + length, d.x.byteAt(d.record(23, 2)), bytes);
             d.x.mount(2);
             Check.same("target of " + length, d.targetOf(1), "t".repeat(length));
         }
@@ -354,7 +356,7 @@ public final class MasterTest {
         for (int i = 10; i < 49; i++) {
             d.file(0, i + "-abcdefghijklmnopqrstuvwxyz0", 0, 0);
         }
-        // 78 and 70 bytes, then records of 44 + 36 + 35 + 1: sixteen, then seventeen in a sector; in the second tree 94 each.
+        // 78 and 70 bytes, then records of 44 + 36 + 35 + 1: sixteen, then seventeen in a sector.
         Check.same("sectors", d.x.master(), 23 + 3 + 2);
         d.both("size", Disc.FIRST + 156 + 10, 4, 3 * 2048);
         d.both("size", Disc.SECOND + 156 + 10, 4, 2 * 2048);
@@ -367,6 +369,30 @@ public final class MasterTest {
         d.mounts("several sectors", 1, 40);
         d.mounts("several sectors", 2, 40);
         Check.same("the last name", d.nameOf(39), "48-abcdefghijklmnopqrstuvwxyz0");
+    }
+
+    private static void sectorsThatAreJustFull() {
+        Disc d = new Disc();
+        for (int i = 0; i < 19; i++) {
+            d.file(0, "abcdefghijklmn" + (char) ('a' + i), 0, 0);
+        }
+        // 78 and 70 bytes, and 19 records of 100.
+        Check.same("a directory of one sector", d.x.master(), 25);
+        d.file(0, "zzzzzzzzzzzzzzz", 0, 0);
+        Check.same("a directory of two sectors", d.x.master(), 26);
+        Check.same("the first one there", d.identifier(24 * SECTOR), "ZZZZZZZZ.;1");
+        d.mounts("two sectors", 0, 21);
+
+        Disc e = new Disc();
+        for (int i = 0; i < 10; i++) {
+            e.link(0, "l" + i, "t".repeat(i < 8 ? 198 : 197));
+        }
+        Check.same("a continuation of one sector", e.x.master(), 26);
+        e.link(0, "m", "t".repeat(200));
+        Check.same("a continuation of two sectors", e.x.master(), 27);
+        e.both("its run's sector", e.part(e.record(23, 12), "CE") + 4, 4, 26);
+        e.both("its run's place", e.part(e.record(23, 12), "CE") + 12, 4, 0);
+        e.mounts("two sectors", 2, 12);
     }
 
     private static void contents() {

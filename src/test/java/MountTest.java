@@ -160,8 +160,17 @@ public final class MountTest {
         d.x.poke(at + 32, bytes - 32);
         d.wrong("an identifier of too many bytes", 0, at);
         d.x.poke(at + 32, bytes - 33);
-        d.x.poke(at + 33, 'X');
-        d.wrong("one of 60 characters and more", 0, at);
+        d.wrong("one of more than 60 characters", 0, at);
+        Disc f = new Disc();
+        f.file(0, "a", 0, 0);
+        f.x.master();
+        int small = f.record(23, 2);
+        Check.same("its bytes", f.x.byteAt(small), 80);
+        f.x.poke(small + 32, 48);
+        f.wrong("an identifier of one byte too many", 0, small);
+        f.x.poke(small + 32, 47);
+        f.mounts("an identifier up to the record's end", 0, 2);
+        f.mounts("no byte is left for parts", 2, 2);
         Disc e = new Disc();
         for (int i = 0; i < 18; i++) {
             e.file(0, "abcdefghijklmnopqrstuvwxyz" + (char) ('a' + i), 0, 0);
@@ -396,9 +405,10 @@ public final class MountTest {
     }
 
     private static void namesOfTheFirstView() {
-        String[] identifiers = {"ABCDEF;1", "ABCDE.;1", "ABCDEFG.", "ABC.E..;", "ABCDEF;2", "ABCD;1;1", "ABCDEF.1",
-            "\0\1\2\u00ff;;;1", ".;1"};
-        String[] names = {"ABCDEF", "ABCDE", "ABCDEFG", "ABC.E..;", "ABCDEF;2", "ABCD;1", "ABCDEF.1", "\0\1\2\u00ff;;", ""};
+        String[] identifiers = {"ABCDEF;1", "ABCDE.;1", "ABCDEFG.", "ABC.E..;", "ABCDEF;2", "ABCD;1;1",
+            "ABCDEF.1", "\0\1\2\u00ff;;;1", ".;1", ";1", "1"};
+        String[] names = {"ABCDEF", "ABCDE", "ABCDEFG", "ABC.E..;", "ABCDEF;2", "ABCD;1",
+            "ABCDEF.1", "\0\1\2\u00ff;;", "", "", "1"};
         for (int i = 0; i < identifiers.length; i++) {
             Disc d = new Disc();
             d.file(0, "12345678.90x", 0, 0);
@@ -494,6 +504,16 @@ public final class MountTest {
         e.x.poke(e.record(23, 2) + e.x.byteAt(e.record(23, 2)), 0);
         e.mounts("less than four bytes", 2, 2);
         Check.same("the name is as in view 0", e.nameOf(1), "ALPHA.TEX");
+        Disc f = sample();
+        int at = f.part(f.record(23, 3), "NM");
+        int end = f.record(23, 3) + f.x.byteAt(f.record(23, 3));
+        f.writePart(at, "ZZ", new int[end - at - 8]);
+        f.writePart(end - 4, "ZZ");
+        f.mounts("four bytes are a part", 2, 5);
+        f.x.poke(end - 2, 3);
+        f.wrong("four bytes are a part", 2, end - 4);
+        f.writePart(at, "ZZ", new int[end - at - 7]);
+        f.mounts("three bytes are none", 2, 5);
     }
 
     private static void partNM() {
@@ -697,6 +717,10 @@ public final class MountTest {
         Check.same("no target", d.x.node(1, 8), 0);
         d.writeContinuation(ce, 25, 0, 2048);
         d.wrong("CE to a whole sector", 2, 25 * SECTOR + 207);
+        d.writeContinuation(ce, 0, 0, 4);
+        d.wrong("CE to the first sector, where no part is", 2, 0);
+        d.writeContinuation(ce, 25, 2048, 0);
+        d.mounts("CE to no bytes", 2, 2);
         d.writeContinuation(ce, 25, 0, 206);
         d.wrong("a part over the run's end", 2, 25 * SECTOR);
         d.writeContinuation(ce, 25, 0, 207);
