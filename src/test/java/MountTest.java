@@ -7,20 +7,27 @@ public final class MountTest {
         viewsThatAreNone();
         descriptors();
         wantedDescriptors();
+        wantedBehindOthers();
         blockSize();
         rootsRecord();
+        rootsPlace();
         recordsBytes();
         recordsHalves();
         recordsPlace();
         recordsIdentifier();
         ownRecords();
+        placesOfOwnRecords();
         bothOwnRecords();
+        ownRecordsInTheNextSector();
         byteZeroLeadsToTheNextSector();
         directoriesThatMeet();
+        directoriesOfOtherSorts();
         depth();
         hundredthNode();
         namesOfTheFirstView();
         namesOfTheSecondView();
+        charactersOfTheSecondView();
+        namesOfTheThirdViewByIdentifier();
         parts();
         partNM();
         partPX();
@@ -41,7 +48,7 @@ public final class MountTest {
         d.file(1, "Inner.file", 3000, 5);
         d.file(0, "Alpha.text", 10, 6);
         d.link(0, "zlink", "/usr/../x");
-        d.x.master();
+        d.master();
         return d;
     }
 
@@ -57,9 +64,9 @@ public final class MountTest {
 
     private static void viewsThatAreNone() {
         Disc d = sample();
-        d.x.mount(1);
+        d.mount(1);
         for (int view : new int[] {-1, 3, Integer.MIN_VALUE, Integer.MAX_VALUE}) {
-            Check.refused("mount(" + view + ")", () -> d.x.mount(view));
+            Check.refused("mount(" + view + ")", () -> d.mount(view));
         }
         Check.same("what was read stays", d.nameOf(1), "Alpha.text");
         Check.refused("without an image", () -> new DiscMaker().mount(3));
@@ -70,45 +77,74 @@ public final class MountTest {
             for (int i = 1; i <= 6; i++) {
                 for (int view = 0; view < 3; view++) {
                     Disc d = sample();
-                    d.x.poke(sector * SECTOR + i, d.x.byteAt(sector * SECTOR + i) + 1);
+                    d.poke(sector * SECTOR + i, d.byteAt(sector * SECTOR + i) + 1);
                     d.wrong("byte " + i + " of sector " + sector, view, sector * SECTOR);
                 }
             }
         }
         for (int n = 0; n <= 18; n++) {
             Disc d = sample();
-            d.x.cut(n);
+            d.cut(n);
             d.wrong("cut(" + n + ")", 0, Math.max(16, n) * SECTOR);
         }
         Disc d = sample();
-        d.x.poke(Disc.LAST, 3);
+        d.poke(Disc.LAST, 3);
         d.wrong("without an end", 0, 19 * SECTOR);
-        d.x.cut(19);
+        d.cut(19);
         d.wrong("without an end, cut", 0, 19 * SECTOR);
     }
 
     private static void wantedDescriptors() {
         Disc d = sample();
-        d.x.poke(Disc.FIRST, 0);
+        d.poke(Disc.FIRST, 0);
         d.wrong("no first one", 0, Disc.LAST);
         d.wrong("no first one", 2, Disc.LAST);
         d.mounts("no first one", 1, 4);
-        d.x.poke(Disc.FIRST, 255);
+        d.poke(Disc.FIRST, 255);
         d.wrong("an end at once", 1, Disc.FIRST);
         Disc e = sample();
         for (int i = 88; i <= 90; i++) {
-            int before = e.x.poke(Disc.SECOND + i, 1);
+            int before = e.poke(Disc.SECOND + i, 1);
             e.wrong("byte " + i, 1, Disc.LAST);
             e.mounts("byte " + i, 0, 5);
-            e.x.poke(Disc.SECOND + i, before);
+            e.poke(Disc.SECOND + i, before);
         }
-        e.x.poke(Disc.SECOND, 1);
+        e.poke(Disc.SECOND, 1);
         e.mounts("two of sort 1: the first", 0, 5);
         e.wrong("none of sort 2", 1, Disc.LAST);
         Disc f = sample();
-        f.x.poke(Disc.FIRST, 2);
+        f.poke(Disc.FIRST, 2);
         f.write(Disc.FIRST + 88, "%/E");
         f.wrong("two of sort 2: the first, whose names are no long ones", 1, f.record(23, 2));
+    }
+
+    private static void wantedBehindOthers() {
+        for (int sort : new int[] {0, 3, 128, 254}) {
+            Disc d = sample();
+            d.poke(Disc.SECOND, sort);
+            d.mounts("sort " + sort + " is passed", 0, 5);
+            d.wrong("sort " + sort + " is none", 1, Disc.LAST);
+        }
+        Disc d = sample();
+        d.poke(Disc.FIRST, 2);
+        d.mounts("of sort 2 the first with the three bytes", 1, 4);
+        d.wrong("none of sort 1", 0, Disc.LAST);
+        Disc e = sample();
+        e.poke(Disc.SECOND, 255);
+        e.mounts("up to sort 255", 0, 5);
+        e.mounts("up to sort 255", 2, 5);
+        e.wrong("what lies behind it is not wanted", 1, Disc.SECOND);
+        e.poke(Disc.LAST + 1, 0);
+        e.mounts("what lies behind it may be anything", 0, 5);
+        e.poke(Disc.FIRST, 255);
+        e.wrong("the end alone", 0, Disc.FIRST);
+        Disc f = sample();
+        f.write(Disc.LAST, 1);
+        f.write(19 * SECTOR, 255, 'C', 'D', '0', '0', '1', 1);
+        f.mounts("an end further on", 0, 5);
+        f.mounts("an end further on", 1, 4);
+        f.poke(Disc.FIRST, 9);
+        f.wrong("a descriptor of zeros", 0, Disc.LAST + 128);
     }
 
     private static void blockSize() {
@@ -116,7 +152,7 @@ public final class MountTest {
             for (int i = 128; i < 132; i++) {
                 Disc d = sample();
                 int at = view == 1 ? Disc.SECOND : Disc.FIRST;
-                d.x.poke(at + i, d.x.byteAt(at + i) ^ 4);
+                d.poke(at + i, d.byteAt(at + i) ^ 4);
                 d.wrong("byte " + i, view, at + 128);
                 d.writeBoth(at + 128, 2, 1024);
                 d.wrong("another block size", view, at + 128);
@@ -128,63 +164,94 @@ public final class MountTest {
         for (int view = 0; view < 3; view++) {
             int at = (view == 1 ? Disc.SECOND : Disc.FIRST) + 156;
             Disc d = sample();
-            d.x.poke(at + 25, 0);
+            d.poke(at + 25, 0);
             d.wrong("root's mark", view, at);
             d = sample();
-            d.x.poke(at, 33);
+            d.poke(at, 33);
             d.wrong("root's bytes", view, at);
             d = sample();
-            d.x.poke(at + 2, 1);
+            d.poke(at + 2, 1);
             d.wrong("root's halves", view, at);
             d = sample();
             d.writeBoth(at + 10, 4, 0);
             d.wrong("root's size", view, at);
             d = sample();
-            d.x.cut(23);
+            d.cut(23);
             d.wrong("root's sector", view, at);
             d = sample();
-            d.x.poke(at + 32, 0);
+            d.poke(at + 32, 0);
             d.wrong("root's identifier", view, at);
+        }
+    }
+
+    private static void rootsPlace() {
+        for (int view = 0; view < 3; view++) {
+            int at = (view == 1 ? Disc.SECOND : Disc.FIRST) + 156;
+            Disc d = sample();
+            int sector = d.low(at + 2, 4);
+            int left = d.sectors() - sector;
+            for (int size : new int[] {1, 2047, 2049, -2048, Integer.MIN_VALUE, Integer.MAX_VALUE, 2048 * (left + 1)}) {
+                d.writeBoth(at + 10, 4, size);
+                d.wrong("root's size " + size, view, at);
+            }
+            d.writeBoth(at + 10, 4, 2048);
+            for (int other : new int[] {-1, d.sectors(), Integer.MIN_VALUE, Integer.MAX_VALUE}) {
+                d.writeBoth(at + 2, 4, other);
+                d.wrong("root's sector " + other, view, at);
+            }
+            d.writeBoth(at + 2, 4, d.sectors() - 1);
+            int place = (d.sectors() - 1) * SECTOR;
+            d.wrong("the last sector is in the image, but no directory", view, place);
+            d.writeBoth(at + 2, 4, sector);
+            d.mounts("mended", view, view == 1 ? 4 : 5);
+            d.poke(at + 32, 2);
+            d.wrong("an identifier over the record's end", view, at);
+            d.poke(at, 35);
+            d.mounts("an identifier up to the record's end", view, view == 1 ? 4 : 5);
+            d.poke(at, 0);
+            d.wrong("no bytes", view, at);
+            d.poke(at, 255);
+            d.mounts("the most bytes", view, view == 1 ? 4 : 5);
         }
     }
 
     private static void recordsBytes() {
         Disc d = sample();
         int at = d.record(23, 2);
-        int bytes = d.x.byteAt(at);
-        d.x.poke(at, 33);
+        int bytes = d.byteAt(at);
+        d.poke(at, 33);
         d.wrong("33 bytes", 0, at);
-        d.x.poke(at, 1);
+        d.poke(at, 1);
         d.wrong("1 byte", 0, at);
-        d.x.poke(at, bytes);
-        d.x.poke(at + 32, bytes - 32);
+        d.poke(at, bytes);
+        d.poke(at + 32, bytes - 32);
         d.wrong("an identifier of too many bytes", 0, at);
-        d.x.poke(at + 32, bytes - 33);
+        d.poke(at + 32, bytes - 33);
         d.wrong("one of more than 60 characters", 0, at);
         Disc f = new Disc();
         f.file(0, "a", 0, 0);
-        f.x.master();
+        f.master();
         int small = f.record(23, 2);
-        Check.same("its bytes", f.x.byteAt(small), 80);
-        f.x.poke(small + 32, 48);
+        Check.same("its bytes", f.byteAt(small), 80);
+        f.poke(small + 32, 48);
         f.wrong("an identifier of one byte too many", 0, small);
-        f.x.poke(small + 32, 47);
+        f.poke(small + 32, 47);
         f.mounts("an identifier up to the record's end", 0, 2);
         f.mounts("no byte is left for parts", 2, 2);
         Disc e = new Disc();
         for (int i = 0; i < 18; i++) {
             e.file(0, "abcdefghijklmnopqrstuvwxyz" + (char) ('a' + i), 0, 0);
         }
-        e.x.master();
+        e.master();
         int last = 23 * SECTOR;
-        while (e.x.byteAt(last + e.x.byteAt(last)) != 0) {
-            last += e.x.byteAt(last);
+        while (e.byteAt(last + e.byteAt(last)) != 0) {
+            last += e.byteAt(last);
         }
         int room = 24 * SECTOR - last;
         Check.yes("the sample can cross a sector's end", room < 255);
-        e.x.poke(last, room + 1);
+        e.poke(last, room + 1);
         e.wrong("one byte over the sector's end", 0, last);
-        e.x.poke(last, room);
+        e.poke(last, room);
         e.mounts("up to the sector's end", 0, 19);
     }
 
@@ -196,7 +263,7 @@ public final class MountTest {
                     if (i < 18 || i >= 28) {
                         Disc d = sample();
                         int at = d.record(sector, k);
-                        d.x.poke(at + i, d.x.byteAt(at + i) ^ 64);
+                        d.poke(at + i, d.byteAt(at + i) ^ 64);
                         d.wrong("byte " + i + " of record " + k, view, at);
                     }
                 }
@@ -208,14 +275,14 @@ public final class MountTest {
         d.mounts("another number at 28", 0, 5);
         d.write(at + 18, 1, 2, 3, 4, 5, 6, 7);
         d.write(at + 26, 1, 2);
-        d.x.poke(at + 1, 9);
+        d.poke(at + 1, 9);
         d.mounts("another day", 0, 5);
     }
 
     private static void recordsPlace() {
         Disc d = sample();
         int file = d.record(23, 2);
-        int total = d.x.sectors();
+        int total = d.sectors();
         int sector = d.low(file + 2, 4);
         d.writeBoth(file + 2, 4, total - 1);
         d.writeBoth(file + 10, 4, 2048);
@@ -229,15 +296,28 @@ public final class MountTest {
         d.wrong("sector far behind", 0, file);
         d.writeBoth(file + 10, 4, 0);
         d.mounts("size 0 needs nothing", 0, 5);
-        Check.same("its sector", d.x.node(1, 3), Integer.MAX_VALUE);
+        Check.same("its sector", d.node(1, 3), Integer.MAX_VALUE);
+        for (int number : new int[] {0x01020304, -1, Integer.MIN_VALUE, 0x10000000, 256, 65536}) {
+            d.writeBoth(file + 2, 4, number);
+            d.mounts("size 0 needs nothing", 0, 5);
+            Check.same("its sector", d.node(1, 3), number);
+        }
         d.writeBoth(file + 2, 4, sector);
         d.writeBoth(file + 10, 4, -1);
         d.wrong("size -1", 0, file);
-        d.writeBoth(file + 10, 4, Integer.MAX_VALUE);
-        d.wrong("the highest size", 0, file);
+        for (int size : new int[] {Integer.MIN_VALUE, Integer.MAX_VALUE, (1 << 24) + 10, (1 << 16) + 10}) {
+            d.writeBoth(file + 10, 4, size);
+            d.wrong("size " + size, 0, file);
+        }
+        d.writeBoth(file + 10, 4, 10);
+        for (int high = 8; high < 32; high += 8) {
+            d.writeBoth(file + 2, 4, sector + (1 << high));
+            d.wrong("sector " + (sector + (1 << high)), 0, file);
+        }
         Disc e = sample();
         int directory = e.record(23, 3);
-        for (int size : new int[] {0, 1, 2047, 2049, -2048, 2048 * (total - 23)}) {
+        for (int size : new int[] {0, 1, 2047, 2049, -2048, 2048 * (total - 23), (1 << 16) + 2048, (1 << 24) + 2048,
+            Integer.MIN_VALUE, Integer.MAX_VALUE}) {
             e.writeBoth(directory + 10, 4, size);
             e.wrong("directory of size " + size, 0, directory);
         }
@@ -251,12 +331,12 @@ public final class MountTest {
     private static void recordsIdentifier() {
         Disc d = sample();
         int at = d.record(23, 2);
-        d.x.poke(at + 32, 0);
+        d.poke(at + 32, 0);
         for (int view = 0; view < 3; view += 2) {
             d.wrong("no identifier", view, at);
         }
         Disc e = sample();
-        e.x.poke(e.record(25, 2) + 32, 0);
+        e.poke(e.record(25, 2) + 32, 0);
         e.wrong("no identifier", 1, e.record(25, 2));
     }
 
@@ -267,10 +347,10 @@ public final class MountTest {
                     int sector = (view == 1 ? 25 : 23) + directory;
                     Disc d = sample();
                     int at = d.record(sector, k);
-                    d.x.poke(at + 33, 1 - k);
+                    d.poke(at + 33, 1 - k);
                     d.wrong("identifier of record " + k, view, at);
                     d = sample();
-                    d.x.poke(at + 25, 0);
+                    d.poke(at + 25, 0);
                     d.wrong("mark of record " + k, view, at);
                     d = sample();
                     d.writeBoth(at + 2, 4, 22);
@@ -283,23 +363,72 @@ public final class MountTest {
             }
         }
         Disc d = sample();
-        d.x.poke(d.record(23, 0) + 32, 2);
+        d.poke(d.record(23, 0) + 32, 2);
         d.wrong("an identifier of two bytes", 0, d.record(23, 0));
+    }
+
+    private static void placesOfOwnRecords() {
+        for (int view = 0; view < 3; view++) {
+            int nodes = view == 1 ? 4 : 5;
+            for (int k = 0; k < 2; k++) {
+                for (int directory = 0; directory < 2; directory++) {
+                    Disc d = sample();
+                    int sector = (view == 1 ? 25 : 23) + directory;
+                    int at = d.record(sector, k);
+                    for (int size : new int[] {0, 1, 2049, -2048, 2048 * (d.sectors() - d.low(at + 2, 4) + 1)}) {
+                        d.writeBoth(at + 10, 4, size);
+                        d.wrong("size " + size + " of record " + k, view, at);
+                    }
+                    d.writeBoth(at + 10, 4, 2048 * 2);
+                    d.mounts("another size of record " + k, view, nodes);
+                    d.poke(at, 33);
+                    d.wrong("33 bytes of record " + k, view, at);
+                }
+            }
+            Disc d = sample();
+            int at = d.record(view == 1 ? 25 : 23, 1);
+            d.writeBoth(at + 2, 4, d.sectors());
+            d.wrong("the parent's sector behind the image", view, at);
+            d.writeBoth(at + 2, 4, d.sectors() - 1);
+            d.mounts("the parent's sector the last one", view, nodes);
+            d.writeBoth(at + 2, 4, 0);
+            d.mounts("the parent's sector 0", view, nodes);
+            d.writeBoth(at + 2, 4, -1);
+            d.wrong("the parent's sector -1", view, at);
+        }
     }
 
     private static void bothOwnRecords() {
         Disc d = sample();
-        d.x.poke(24 * SECTOR, 0);
+        d.poke(24 * SECTOR, 0);
         d.wrong("no record", 0, 24 * SECTOR);
         Disc e = sample();
-        e.x.poke(e.record(24, 1), 0);
+        e.poke(e.record(24, 1), 0);
         e.wrong("one record", 2, 24 * SECTOR);
         Disc f = sample();
-        f.x.poke(23 * SECTOR, 0);
+        f.poke(23 * SECTOR, 0);
         f.wrong("no record in the root", 2, 23 * SECTOR);
         Disc g = sample();
-        g.x.poke(g.record(24, 2), 0);
+        g.poke(g.record(24, 2), 0);
         g.mounts("both and no more", 0, 4);
+    }
+
+    private static void ownRecordsInTheNextSector() {
+        Disc d = new Disc();
+        d.directory(0, "a");
+        d.master();
+        // Directory a goes on over the second tree's root; its own first record is gone.
+        int a = d.record(23, 2);
+        d.writeBoth(a + 10, 4, 2 * SECTOR);
+        d.poke(24 * SECTOR, 0);
+        d.wrong("the first record tells another sector", 0, 25 * SECTOR);
+        d.writeBoth(25 * SECTOR + 2, 4, 24);
+        d.mounts("the first record lies in the second sector", 0, 3);
+        Check.same("the second root's node", d.nameOf(2), "\0a");
+        d.poke(25 * SECTOR + 34, 0);
+        d.wrong("there is no second record", 0, 24 * SECTOR);
+        d.poke(25 * SECTOR, 0);
+        d.wrong("there is none", 0, 24 * SECTOR);
     }
 
     private static void byteZeroLeadsToTheNextSector() {
@@ -307,15 +436,15 @@ public final class MountTest {
         for (int i = 0; i < 30; i++) {
             d.file(0, "abcdefghijklmnopqrstuvwxyz" + (char) ('a' + i % 26) + i, 0, 0);
         }
-        d.x.master();
+        d.master();
         d.mounts("two sectors", 0, 31);
         int before = 0;
         while (d.record(23, before) < 24 * SECTOR) {
             before++;
         }
-        d.x.poke(d.record(23, 5), 0);
+        d.poke(d.record(23, 5), 0);
         d.mounts("three of them in the first one", 0, 1 + 3 + 32 - before);
-        d.x.poke(24 * SECTOR, 0);
+        d.poke(24 * SECTOR, 0);
         d.mounts("none in the second one", 0, 1 + 3);
     }
 
@@ -324,7 +453,7 @@ public final class MountTest {
         d.directory(0, "a");
         d.directory(0, "b");
         d.directory(1, "c");
-        d.x.master();
+        d.master();
         int b = d.record(23, 3);
         d.writeBoth(b + 2, 4, 24);
         d.wrong("b lies where a does", 0, b);
@@ -342,6 +471,26 @@ public final class MountTest {
         e.mounts("a file may lie there", 0, 5);
     }
 
+    /** Only a directory must have a sector of its own, and only directories are gone through. */
+    private static void directoriesOfOtherSorts() {
+        Disc d = sample();
+        int directory = d.record(23, 3);
+        d.poke(directory + 25, 0);
+        d.mounts("a directory without its mark is a file", 0, 4);
+        Check.same("its sort", d.node(2, 1), 1);
+        Check.same("its bytes are those of the directory", d.read(2, 0), d.byteAt(24 * SECTOR));
+        Disc e = sample();
+        int file = e.record(23, 2);
+        e.poke(file + 25, 2);
+        e.wrong("a file with the mark has no size of a directory", 0, file);
+        e.writeBoth(file + 10, 4, 2048);
+        e.wrong("and no records", 0, e.low(file + 2, 4) * SECTOR);
+        e.writeBoth(file + 2, 4, 26);
+        e.mounts("the second tree's directory has them", 0, 6);
+        Check.same("its sort", e.node(1, 1), 0);
+        Check.same("its node", e.node(4, 0), 1);
+    }
+
     private static void depth() {
         Disc d = new Disc();
         for (int n = 0; n < 7; n++) {
@@ -349,88 +498,86 @@ public final class MountTest {
         }
         d.directory(0, "e");
         d.file(7, "f", 0, 0);
-        d.x.master();
+        d.master();
         d.mounts("a depth of 8", 0, 10);
         // The directory e becomes one in the deepest one.
         int deepest = 31;
         int e = 25;
         Check.same("the deepest one's file", d.identifier(d.record(deepest, 2)), "F.;1");
         Check.same("e", d.identifier(d.record(23, 3)), "E");
-        d.x.poke(d.record(23, 3), 0);
+        d.poke(d.record(23, 3), 0);
         d.mounts("without e", 0, 9);
         int at = d.record(deepest, 2);
         d.writeBoth(at + 2, 4, e);
         d.writeBoth(at + 10, 4, 2048);
-        d.x.poke(at + 25, 2);
+        d.poke(at + 25, 2);
         d.wrong("a depth of 9", 0, at);
         d.wrong("a depth of 9", 2, at);
     }
 
-    private static void hundredthNode() {
+    /**
+     * The root goes on over the sectors of its directory d, whose records of itself and of its parent become nodes that
+     * lead to d and to e; its record of d leads to the second tree's root: so the 31 files of d are met three times.
+     */
+    private static Disc ninetyNine(int links) {
         Disc d = new Disc();
-        d.file(0, "f", 4100, 0);
-        d.file(0, "g", 4100, 1);
-        d.x.master();
-        // The contents of f become two more sectors of a directory that takes the place of the root.
-        int begin = d.low(d.record(23, 2) + 2, 4);
-        d.writeBoth(Disc.FIRST + 156 + 2, 4, begin);
-        d.writeBoth(Disc.FIRST + 156 + 10, 4, 2 * 2048);
-        int at = begin * SECTOR;
-        for (int k = 0; k < 102; k++) {
-            if (at % SECTOR + 36 > SECTOR) {
-                d.x.poke(at, 0);
-                at += SECTOR - at % SECTOR;
-            }
-            boolean own = k < 2;
-            d.write(at, 36, 0);
-            d.writeBoth(at + 2, 4, own ? begin : 0);
-            d.writeBoth(at + 10, 4, own ? 2048 : 0);
-            d.write(at + 25, own ? 2 : 0);
-            d.writeBoth(at + 28, 2, 1);
-            d.write(at + 32, 1, own ? k : 'x', 0, 0);
-            if (k == 99) {
-                d.x.poke(at + 36, 0);
-                d.mounts("99 nodes", 0, 99);
-                d.mounts("99 nodes", 2, 99);
-                Check.same("the last one's name", d.nameOf(98), "x");
-            }
-            if (k == 100) {
-                d.x.poke(at + 36, 0);
-                d.wrong("the 100th node", 0, at);
-                d.wrong("the 100th node", 2, at);
-                return;
-            }
-            at += 36;
+        d.directory(0, "d");
+        d.directory(0, "e");
+        for (int i = 0; i < 31; i++) {
+            d.file(1, "f" + (char) ('a' + i / 26) + (char) ('a' + i % 26), 0, 0);
+        }
+        for (int i = 0; i < links; i++) {
+            d.link(2, "l" + i, "t");
+        }
+        Check.same("sectors", d.master(), 30);
+        d.writeBoth(Disc.FIRST + 156 + 10, 4, 3 * SECTOR);
+        d.writeBoth(d.record(23, 2) + 2, 4, 27);
+        d.writeBoth(d.record(23, 2) + 10, 4, SECTOR);
+        d.poke(d.record(23, 3), 0);
+        d.writeBoth(d.record(24, 1) + 2, 4, 26);
+        return d;
+    }
+
+    private static void hundredthNode() {
+        for (int view = 0; view < 3; view += 2) {
+            Disc d = ninetyNine(0);
+            d.mounts("99 nodes", view, 99);
+            Check.same("the last one's name", d.nameOf(98), "\0f\0b\0e");
+            Check.same("the last one's parent", d.node(98, 0), 35);
+            Disc e = ninetyNine(1);
+            e.wrong("the 100th node", view, e.record(28, 32));
+            Disc f = ninetyNine(2);
+            f.wrong("the 100th node, and one behind it", view, f.record(28, 31));
         }
     }
 
     private static void namesOfTheFirstView() {
         String[] identifiers = {"ABCDEF;1", "ABCDE.;1", "ABCDEFG.", "ABC.E..;", "ABCDEF;2", "ABCD;1;1",
-            "ABCDEF.1", "\0\1\2\u00ff;;;1", ".;1", ";1", "1"};
+            "ABCDEF.1", "\0\1\2\u00ff;;;1", ".;1", ";1", "1", ".", "..", "..;1", ";", ";1.", ";1;1"};
         String[] names = {"ABCDEF", "ABCDE", "ABCDEFG", "ABC.E..;", "ABCDEF;2", "ABCD;1",
-            "ABCDEF.1", "\0\1\2\u00ff;;", "", "", "1"};
+            "ABCDEF.1", "\0\1\2\u00ff;;", "", "", "1", "", ".", ".", ";", ";1", ";1"};
         for (int i = 0; i < identifiers.length; i++) {
             Disc d = new Disc();
             d.file(0, "12345678.90x", 0, 0);
-            d.x.master();
+            d.master();
             int at = d.record(23, 2);
-            d.x.poke(at + 32, identifiers[i].length());
+            d.poke(at + 32, identifiers[i].length());
             d.write(at + 33, identifiers[i]);
             d.mounts("identifier " + identifiers[i], 0, 2);
             Check.same("its name", d.nameOf(1), names[i]);
         }
         Disc d = new Disc();
         d.link(0, "a", "t".repeat(160));
-        d.x.master();
+        d.master();
         int at = d.record(23, 2);
-        d.x.poke(at + 32, 62);
+        d.poke(at + 32, 62);
         d.write(at + 33, "n".repeat(60) + ";1");
         d.mounts("60 characters", 0, 2);
         Check.same("60 characters", d.nameOf(1), "n".repeat(60));
-        d.x.poke(at + 32, 61);
+        d.poke(at + 32, 61);
         d.write(at + 33, "n".repeat(61));
         d.wrong("61 characters", 0, at);
-        d.x.poke(at + 32, 63);
+        d.poke(at + 32, 63);
         d.write(at + 33, "n".repeat(60) + ".;1");
         d.mounts("60 characters and a .", 0, 2);
     }
@@ -439,35 +586,88 @@ public final class MountTest {
         Disc d = sample();
         int at = d.record(25, 2);
         for (int c : new int[] {32, 127, 0, 255}) {
-            d.x.poke(at + 34, c);
+            d.poke(at + 34, c);
             d.wrong("character " + c, 1, at);
         }
         for (int c : new int[] {33, 126, '/'}) {
-            d.x.poke(at + 34, c);
+            d.poke(at + 34, c);
             d.mounts("character " + c, 1, 4);
-            Check.same("character " + c, d.x.name(1, 0), c);
+            Check.same("character " + c, d.name(1, 0), c);
         }
-        d.x.poke(at + 33, 1);
+        d.poke(at + 33, 1);
         d.wrong("a character above 255", 1, at);
-        d.x.poke(at + 33, 0);
-        d.x.poke(at + 32, 19);
+        d.poke(at + 33, 0);
+        d.poke(at + 32, 19);
         d.wrong("an odd length", 1, at);
-        d.x.poke(at + 32, 18);
+        d.poke(at + 32, 18);
         d.mounts("an even length", 1, 4);
         Check.same("nine characters", d.nameOf(1), "/lpha.tex");
         Disc e = new Disc();
         e.file(0, "a", 0, 0);
-        e.x.master();
+        e.master();
         int record = e.record(24, 2);
-        e.x.poke(record, 160);
+        e.poke(record, 160);
         for (int i = 0; i < 61; i++) {
             e.write(record + 33 + 2 * i, 0, 'n');
         }
-        e.x.poke(record + 32, 120);
+        e.poke(record + 32, 120);
         e.mounts("60 characters", 1, 2);
         Check.same("60 characters", e.nameOf(1), "n".repeat(60));
-        e.x.poke(record + 32, 122);
+        e.poke(record + 32, 122);
         e.wrong("61 characters", 1, record);
+    }
+
+    private static void charactersOfTheSecondView() {
+        Disc d = sample();
+        int at = d.record(25, 2);
+        for (int i : new int[] {0, 9}) {
+            for (int high = 0; high < 256; high += high < 2 ? 1 : 253) {
+                for (int low : new int[] {0, 32, 33, 126, 127, 255}) {
+                    d.write(at + 33 + 2 * i, high, low);
+                    if (high == 0 && low >= 33 && low <= 126) {
+                        d.mounts("character " + low, 1, 4);
+                        Check.same("character " + low, d.name(1, i), low);
+                    } else {
+                        d.wrong("character " + high + " " + low, 1, at);
+                    }
+                }
+            }
+            d.write(at + 33 + 2 * i, 0, 'x');
+        }
+        for (int bytes = 1; bytes < 22; bytes += 2) {
+            d.poke(at + 32, bytes);
+            d.wrong("an identifier of " + bytes, 1, at);
+        }
+        d.poke(at + 32, 2);
+        d.mounts("an identifier of 2", 1, 4);
+        Check.same("one character", d.nameOf(1), "x");
+        d.poke(at + 32, 0);
+        d.wrong("an identifier of 0", 1, at);
+    }
+
+    private static void namesOfTheThirdViewByIdentifier() {
+        Disc d = sample();
+        int record = d.record(23, 2);
+        d.write(d.part(record, "NM"), "XX");
+        // Behind ten or eleven bytes of an identifier the parts begin at the same place.
+        String[] identifiers = {"ALPHA.TE;1", "ALPHATEX.;1", "ALPHATEXT;2", "ALPHATEXT.", "ALPHA.TEXT"};
+        String[] names = {"ALPHA.TE", "ALPHATEX", "ALPHATEXT;2", "ALPHATEXT", "ALPHA.TEXT"};
+        for (int i = 0; i < names.length; i++) {
+            d.poke(record + 32, identifiers[i].length());
+            d.write(record + 33, identifiers[i]);
+            d.mounts("without NM", 2, 5);
+            Check.same("the name is as in view 0", d.nameOf(1), names[i]);
+            Check.same("the parts are read", d.node(1, 4), 32768 + 420);
+        }
+        Disc e = linkSample();
+        int link = e.record(23, 2);
+        e.poke(link, 95);
+        e.poke(link + 95, 0);
+        e.poke(link + 32, 62);
+        e.write(link + 33, "n".repeat(60) + ";1");
+        e.mounts("60 characters", 2, 2);
+        Check.same("60 characters", e.nameOf(1), "n".repeat(60));
+        Check.same("no mode", e.node(1, 4), 0);
     }
 
     private static void parts() {
@@ -476,23 +676,23 @@ public final class MountTest {
         int px = d.part(record, "PX");
         int nm = d.part(record, "NM");
         for (int bytes : new int[] {0, 1, 3}) {
-            d.x.poke(px + 2, bytes);
+            d.poke(px + 2, bytes);
             d.wrong("a part of " + bytes, 2, px);
             d.mounts("by view 0", 0, 5);
         }
-        d.x.poke(px + 2, 36);
-        int left = record + d.x.byteAt(record) - nm;
-        d.x.poke(nm + 2, left + 1);
+        d.poke(px + 2, 36);
+        int left = record + d.byteAt(record) - nm;
+        d.poke(nm + 2, left + 1);
         d.wrong("a part over the record's end", 2, nm);
         d.write(px, "XY");
-        d.x.poke(nm + 2, 15);
+        d.poke(nm + 2, 15);
         d.mounts("another part is left", 2, 5);
-        Check.same("no mode", d.x.node(1, 4), 0);
-        Check.same("no owner", d.x.node(1, 5), 0);
-        Check.same("no group", d.x.node(1, 6), 0);
+        Check.same("no mode", d.node(1, 4), 0);
+        Check.same("no owner", d.node(1, 5), 0);
+        Check.same("no group", d.node(1, 6), 0);
         Check.same("a name", d.nameOf(1), "Alpha.text");
-        d.x.poke(px + 3, 9);
-        d.x.poke(px + 2, 4);
+        d.poke(px + 3, 9);
+        d.poke(px + 2, 4);
         d.write(px + 4, "ZZ");
         d.write(px + 6, 32, 1);
         d.mounts("a part of four bytes is left", 2, 5);
@@ -500,17 +700,17 @@ public final class MountTest {
         d.mounts("no name", 2, 5);
         Check.same("the name is as in view 0", d.nameOf(1), "ALPHA.TEX");
         Disc e = sample();
-        e.x.poke(e.record(23, 2), e.systemUse(e.record(23, 2)) - e.record(23, 2) + 3);
-        e.x.poke(e.record(23, 2) + e.x.byteAt(e.record(23, 2)), 0);
+        e.poke(e.record(23, 2), e.systemUse(e.record(23, 2)) - e.record(23, 2) + 3);
+        e.poke(e.record(23, 2) + e.byteAt(e.record(23, 2)), 0);
         e.mounts("less than four bytes", 2, 2);
         Check.same("the name is as in view 0", e.nameOf(1), "ALPHA.TEX");
         Disc f = sample();
         int at = f.part(f.record(23, 3), "NM");
-        int end = f.record(23, 3) + f.x.byteAt(f.record(23, 3));
+        int end = f.record(23, 3) + f.byteAt(f.record(23, 3));
         f.writePart(at, "ZZ", new int[end - at - 8]);
         f.writePart(end - 4, "ZZ");
         f.mounts("four bytes are a part", 2, 5);
-        f.x.poke(end - 2, 3);
+        f.poke(end - 2, 3);
         f.wrong("four bytes are a part", 2, end - 4);
         f.writePart(at, "ZZ", new int[end - at - 7]);
         f.mounts("three bytes are none", 2, 5);
@@ -519,12 +719,12 @@ public final class MountTest {
     private static void partNM() {
         Disc d = sample();
         int nm = d.part(d.record(23, 2), "NM");
-        d.x.poke(nm + 4, 1);
+        d.poke(nm + 4, 1);
         d.wrong("NM with a flag", 2, nm);
-        d.x.poke(nm + 4, 0);
-        d.x.poke(nm + 2, 4);
+        d.poke(nm + 4, 0);
+        d.poke(nm + 2, 4);
         d.wrong("NM of four bytes", 2, nm);
-        d.x.poke(nm + 2, 5);
+        d.poke(nm + 2, 5);
         d.writePart(nm + 5, "NM", 0, 'x');
         d.writePart(nm + 11, "ZZ");
         d.mounts("NM of five bytes and one behind it", 2, 5);
@@ -540,7 +740,7 @@ public final class MountTest {
 
         Disc e = new Disc();
         e.link(0, "a", "t".repeat(160));
-        e.x.master();
+        e.master();
         int at = e.part(e.record(23, 2), "NM");
         int[] data = new int[31];
         java.util.Arrays.fill(data, 'n');
@@ -562,9 +762,9 @@ public final class MountTest {
         Disc d = sample();
         int px = d.part(d.record(23, 2), "PX");
         for (int i = 4; i < 36; i++) {
-            d.x.poke(px + i, d.x.byteAt(px + i) ^ 1);
+            d.poke(px + i, d.byteAt(px + i) ^ 1);
             d.wrong("byte " + i + " of PX", 2, px);
-            d.x.poke(px + i, d.x.byteAt(px + i) ^ 1);
+            d.poke(px + i, d.byteAt(px + i) ^ 1);
         }
         int[] numbers = {-1, 9, Integer.MIN_VALUE, 0x01020304};
         for (int i = 0; i < 4; i++) {
@@ -572,14 +772,14 @@ public final class MountTest {
         }
         d.writeBoth(px + 4, 4, -61440);
         d.mounts("other numbers", 2, 5);
-        Check.same("mode", d.x.node(1, 4), -61440);
-        Check.same("owner", d.x.node(1, 5), Integer.MIN_VALUE);
-        Check.same("group", d.x.node(1, 6), 0x01020304);
-        d.x.poke(px + 2, 37);
+        Check.same("mode", d.node(1, 4), -61440);
+        Check.same("owner", d.node(1, 5), Integer.MIN_VALUE);
+        Check.same("group", d.node(1, 6), 0x01020304);
+        d.poke(px + 2, 37);
         d.wrong("PX of 37 bytes", 2, px);
-        d.x.poke(px + 2, 35);
+        d.poke(px + 2, 35);
         d.wrong("PX of 35 bytes", 2, px);
-        d.x.poke(px + 2, 4);
+        d.poke(px + 2, 4);
         d.wrong("PX of 4 bytes", 2, px);
     }
 
@@ -587,7 +787,7 @@ public final class MountTest {
     private static Disc linkSample() {
         Disc d = new Disc();
         d.link(0, "a", "t".repeat(160));
-        d.x.master();
+        d.master();
         return d;
     }
 
@@ -631,6 +831,15 @@ public final class MountTest {
         components("half a component at once", null, 0, 0);
         components("a component over the end", null, 0, 0, 2, 'a');
 
+        Disc four = linkSample();
+        int short4 = four.part(four.record(23, 2), "SL");
+        four.writePart(short4, "SL");
+        four.write(short4 + 4, 0, 'Z', 163, 1);
+        four.wrong("four bytes, a byte 0 behind them", 2, short4);
+        four.writePart(short4, "SL", 0);
+        four.write(short4 + 5, 0, 'Z', 162, 1);
+        four.mounts("five bytes, a byte 0 behind them", 2, 2);
+
         Disc d = linkSample();
         int sl = d.part(d.record(23, 2), "SL");
         d.writePart(sl, "SL", 0, 8, 0);
@@ -646,7 +855,7 @@ public final class MountTest {
         for (int last = 19; last <= 21; last++) {
             Disc d = new Disc();
             d.link(0, "a", "t".repeat(190));
-            d.x.master();
+            d.master();
             // 190, a / and 190 more make 381; a / and what comes last make the rest.
             int run = 25 * SECTOR;
             int[] data = new int[193];
@@ -674,7 +883,7 @@ public final class MountTest {
         }
         Disc d = new Disc();
         d.link(0, "a", "t".repeat(200));
-        d.x.master();
+        d.master();
         int run = 25 * SECTOR;
         int[] data = new int[202];
         java.util.Arrays.fill(data, 'u');
@@ -685,7 +894,7 @@ public final class MountTest {
         d.writeBoth(d.part(d.record(23, 2), "CE") + 20, 4, 207 + 206);
         d.mounts("400 characters", 2, 2);
         Check.same("400 characters", d.targetOf(1), "t".repeat(200) + "/" + "u".repeat(199));
-        Check.same("400 characters", d.x.node(1, 8), 400);
+        Check.same("400 characters", d.node(1, 8), 400);
         d.writePart(run + 413, "SL", 0, 8, 0);
         d.writeBoth(d.part(d.record(23, 2), "CE") + 20, 4, 207 + 206 + 7);
         d.wrong("401 characters", 2, run + 413);
@@ -694,27 +903,35 @@ public final class MountTest {
     private static void partCE() {
         Disc d = new Disc();
         d.link(0, "a", "t".repeat(200));
-        d.x.master();
+        d.master();
         int ce = d.part(d.record(23, 2), "CE");
         for (int i = 4; i < 28; i++) {
-            d.x.poke(ce + i, d.x.byteAt(ce + i) ^ 1);
+            d.poke(ce + i, d.byteAt(ce + i) ^ 1);
             d.wrong("byte " + i + " of CE", 2, ce);
             d.mounts("by view 0", 0, 2);
-            d.x.poke(ce + i, d.x.byteAt(ce + i) ^ 1);
+            d.poke(ce + i, d.byteAt(ce + i) ^ 1);
         }
-        d.x.poke(ce + 2, 27);
+        d.poke(ce + 2, 27);
         d.wrong("CE of 27 bytes", 2, ce);
-        d.x.poke(ce + 2, 28);
-        int total = d.x.sectors();
-        int[][] wrong = {{total, 0, 4}, {-1, 0, 4}, {25, -1, 4}, {25, 0, -1}, {25, 1, 2048}, {25, 2047, 2}, {24, 0, 2049},
-            {25, Integer.MAX_VALUE, Integer.MAX_VALUE}, {Integer.MIN_VALUE, 0, 0}};
+        d.poke(ce + 2, 28);
+        d.mounts("CE of 28 bytes", 2, 2);
+        d.poke(d.record(23, 2), d.byteAt(d.record(23, 2)) + 2);
+        d.poke(ce + 2, 29);
+        d.wrong("CE of 29 bytes", 2, ce);
+        d.poke(ce + 2, 28);
+        d.poke(d.record(23, 2), d.byteAt(d.record(23, 2)) - 2);
+        int total = d.sectors();
+        int[][] wrong = {{total, 0, 4}, {-1, 0, 4}, {25, -1, 4}, {25, 0, -1}, {25, 1, 2048}, {25, 2047, 2},
+            {25, 2048, 1}, {24, 0, 2049}, {25, Integer.MAX_VALUE, Integer.MAX_VALUE}, {Integer.MIN_VALUE, 0, 4},
+            {25, Integer.MIN_VALUE, 4}, {25, 0, Integer.MIN_VALUE}, {25 + (1 << 24), 0, 207}, {25, 1 << 24, 207}, {25, 0, (1 << 24) + 207},
+            {25 + (1 << 16), 0, 207}, {25, 1 << 16, 207}, {25, 0, (1 << 16) + 207}};
         for (int[] w : wrong) {
             d.writeContinuation(ce, w[0], w[1], w[2]);
             d.wrong("CE to " + w[0] + " " + w[1] + " " + w[2], 2, ce);
         }
         d.writeContinuation(ce, 25, 2045, 3);
         d.mounts("CE to three bytes", 2, 2);
-        Check.same("no target", d.x.node(1, 8), 0);
+        Check.same("no target", d.node(1, 8), 0);
         d.writeContinuation(ce, 25, 0, 2048);
         d.wrong("CE to a whole sector", 2, 25 * SECTOR + 207);
         d.writeContinuation(ce, 0, 0, 4);
@@ -724,16 +941,16 @@ public final class MountTest {
         d.writeContinuation(ce, 25, 0, 206);
         d.wrong("a part over the run's end", 2, 25 * SECTOR);
         d.writeContinuation(ce, 25, 0, 207);
-        d.x.poke(25 * SECTOR + 4, 1);
+        d.poke(25 * SECTOR + 4, 1);
         d.wrong("a flag in the run", 2, 25 * SECTOR);
-        d.x.cut(25);
+        d.cut(25);
         d.wrong("the run is cut off", 2, ce);
     }
 
     private static void manyCE() {
         Disc d = new Disc();
         d.link(0, "a", "t".repeat(200));
-        d.x.master();
+        d.master();
         int ce = d.part(d.record(23, 2), "CE");
         int run = 25 * SECTOR;
         // The first run leads to the second one, and parts behind its CE come first.
@@ -770,64 +987,68 @@ public final class MountTest {
         int px = d.part(d.record(23, 2), "PX");
         d.writeBoth(px + 4, 4, 40960);
         d.mounts("a file with a link's mode", 2, 5);
-        Check.same("its sort", d.x.node(1, 1), 2);
+        Check.same("its sort", d.node(1, 1), 2);
         d.mounts("by view 0", 0, 5);
-        Check.same("its sort by view 0", d.x.node(1, 1), 1);
+        Check.same("its sort by view 0", d.node(1, 1), 1);
         d.writeBoth(px + 4, 4, 40960 + 4095 + 65536);
-        d.x.mount(2);
-        Check.same("other bits", d.x.node(1, 1), 2);
+        d.mount(2);
+        Check.same("other bits", d.node(1, 1), 2);
         d.writeBoth(px + 4, 4, 40960 + 16384);
-        d.x.mount(2);
-        Check.same("one bit more", d.x.node(1, 1), 1);
+        d.mount(2);
+        Check.same("one bit more", d.node(1, 1), 1);
         int link = d.part(d.record(23, 4), "PX");
         d.writeBoth(link + 4, 4, 33188);
-        d.x.mount(2);
-        Check.same("a link with a file's mode", d.x.node(3, 1), 1);
+        d.mount(2);
+        Check.same("a link with a file's mode", d.node(3, 1), 1);
     }
 
     private static void rootsParts() {
         Disc d = sample();
-        d.x.own(0, 1, 2, 3);
-        d.x.master();
+        d.own(0, 1, 2, 3);
+        d.master();
         int px = d.part(23 * SECTOR, "PX");
-        d.x.poke(px + 4, 99);
+        d.poke(px + 4, 99);
         d.wrong("root's PX", 2, px);
         d.mounts("by view 0", 0, 5);
-        d.x.poke(px + 4, 1);
+        d.poke(px + 4, 1);
         d.write(px, "XY");
         d.mounts("root without PX", 2, 5);
-        Check.same("its mode", d.x.node(0, 4), 0);
+        Check.same("its mode", d.node(0, 4), 0);
         d.write(px, "PX");
         int other = d.part(d.record(23, 1), "PX");
-        d.x.poke(other + 4, 99);
-        d.x.poke(d.part(d.record(24, 0), "PX") + 4, 99);
+        d.poke(other + 4, 99);
+        d.poke(d.part(d.record(24, 0), "PX") + 4, 99);
         d.mounts("the records of parents, and of others of themselves, are not looked at so far", 2, 5);
-        Check.same("root's mode", d.x.node(0, 4), 16385);
-        Check.same("root's owner", d.x.node(0, 5), 2);
-        Check.same("root's group", d.x.node(0, 6), 3);
-        Check.same("root's name", d.x.node(0, 7), 0);
+        Check.same("root's mode", d.node(0, 4), 16385);
+        Check.same("root's owner", d.node(0, 5), 2);
+        Check.same("root's group", d.node(0, 6), 3);
+        Check.same("root's name", d.node(0, 7), 0);
+        d.writePart(23 * SECTOR + 34, "NM", 0, 'x', 'y');
+        d.mounts("an NM in the root's record of itself", 2, 5);
+        Check.same("root's name", d.node(0, 7), 0);
+        Check.noSuch("root's name", () -> d.name(0, 0));
     }
 
     private static void firstWrongPlace() {
         Disc d = sample();
-        d.x.poke(d.record(24, 0) + 25, 0);
+        d.poke(d.record(24, 0) + 25, 0);
         d.wrong("in the second directory", 0, d.record(24, 0));
         int last = d.record(23, 4);
-        d.x.poke(last + 2, 1);
+        d.poke(last + 2, 1);
         d.wrong("and at the end of the root", 0, last);
         int nm = d.part(d.record(23, 3), "NM");
-        d.x.poke(nm + 4, 1);
+        d.poke(nm + 4, 1);
         d.wrong("and in a part ahead of it", 2, nm);
         d.wrong("which view 0 leaves", 0, last);
-        d.x.poke(Disc.FIRST + 156 + 25, 0);
+        d.poke(Disc.FIRST + 156 + 25, 0);
         d.wrong("and in the root's record", 2, Disc.FIRST + 156);
-        d.x.poke(Disc.FIRST + 128, 1);
+        d.poke(Disc.FIRST + 128, 1);
         d.wrong("and in the block size", 2, Disc.FIRST + 128);
-        d.x.poke(Disc.LAST + 1, 1);
+        d.poke(Disc.LAST + 1, 1);
         d.wrong("and in the end", 2, Disc.LAST);
         Disc e = sample();
-        for (int i = 0; i < 4 * SECTOR; i++) {
-            e.x.poke(19 * SECTOR + i, 1);
+        for (int i = 0; i < 80; i++) {
+            e.poke((19 + i % 4) * SECTOR + i / 4, 1);
         }
         e.mounts("path tables are not looked at", 0, 5);
         e.mounts("path tables are not looked at", 1, 4);

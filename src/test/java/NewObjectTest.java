@@ -29,15 +29,17 @@ public final class NewObjectTest {
 
     private static void hasTheRootAlone() {
         Disc d = new Disc();
-        Check.no("end(1) without a text", d.x.end(1));
-        Check.no("own(1)", d.x.own(1, 0, 0, 0));
-        Check.same("master", d.x.master(), 25);
+        Check.no("end(1) without a text", d.end(1));
+        Check.yes("end(0) without a text", d.end(0));
+        Check.no("own(1)", d.own(1, 0, 0, 0));
+        Check.same("there is no directory 1", d.file(1, "a", 0, 0), DiscMaker.WRONG);
+        Check.same("master", d.master(), 25);
         for (int view = 0; view < 3; view++) {
             d.mounts("the root alone", view, 1);
         }
-        Check.same("its mode", d.x.node(0, 4), 16877);
-        Check.same("its owner", d.x.node(0, 5), 0);
-        Check.same("its group", d.x.node(0, 6), 0);
+        Check.same("its mode", d.node(0, 4), 16877);
+        Check.same("its owner", d.node(0, 5), 0);
+        Check.same("its group", d.node(0, 6), 0);
         Check.same("the first node's number", d.file(0, "a", 0, 0), 1);
     }
 
@@ -45,8 +47,8 @@ public final class NewObjectTest {
         Disc a = new Disc();
         Disc b = new Disc();
         a.file(0, "a", 1, 0);
-        a.x.master();
-        Check.same("the other one's image", b.x.sectors(), 0);
+        a.master();
+        Check.same("the other one's image", b.sectors(), 0);
         Check.same("the other one's node", b.file(0, "a", 1, 0), 1);
     }
 }

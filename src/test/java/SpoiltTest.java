@@ -7,11 +7,11 @@ public final class SpoiltTest {
     public static void main(String[] args) {
         for (int run = 0; run < 400; run++) {
             Disc d = grown();
-            d.x.master();
+            d.master();
             for (int i = 0; i < 20; i++) {
                 spoil(d);
                 for (int view = 0; view < 3; view++) {
-                    look(d.x, d.x.mount(view));
+                    look(d, d.mount(view));
                 }
             }
         }
@@ -39,23 +39,23 @@ public final class SpoiltTest {
     }
 
     private static void spoil(Disc d) {
-        int size = d.x.sectors() * Disc.SECTOR;
+        int size = d.sectors() * Disc.SECTOR;
         int used = size - 23 * Disc.SECTOR;
         switch (next(12)) {
-            case 0: d.x.cut(next(d.x.sectors() + 2)); break;
-            case 1: d.x.master(); break;
-            case 2: if (size > 0) d.x.poke(next(size), next(256)); break;
-            case 3: d.x.poke(Disc.FIRST + next(3 * Disc.SECTOR), next(256)); break;
+            case 0: d.cut(next(d.sectors() + 2)); break;
+            case 1: d.master(); break;
+            case 2: if (size > 0) d.poke(next(size), next(256)); break;
+            case 3: d.poke(Disc.FIRST + next(3 * Disc.SECTOR), next(256)); break;
             case 4: d.writeBoth(Disc.FIRST + next(2) * Disc.SECTOR + 158, 4, next(30)); break;
             default:
                 if (used > 0) {
                     int at = 23 * Disc.SECTOR + next(Math.min(used, 4 * Disc.SECTOR)) / 2 % 300 * 2;
-                    d.x.poke(at, next(3) == 0 ? next(256) : d.x.byteAt(at) + next(3) - 1);
+                    d.poke(at, next(3) == 0 ? next(256) : d.byteAt(at) + next(3) - 1);
                 }
         }
     }
 
-    private static void look(DiscMaker x, int answer) {
+    private static void look(Disc x, int answer) {
         Check.yes("an answer of mount", answer > 0 ? answer < 100 : answer < 0 && -1 - answer < 400000);
         for (int k = -1; k <= Math.max(answer, 0); k++) {
             boolean known = k >= 0 && k < answer;
@@ -75,7 +75,7 @@ public final class SpoiltTest {
     }
 
     /** Whether a call answers; it must not throw anything but NoSuchElementException. */
-    private static boolean given(DiscMaker x, int call, int k, int i) {
+    private static boolean given(Disc x, int call, int k, int i) {
         try {
             switch (call) {
                 case 0: x.node(k, i); break;
