@@ -9,6 +9,7 @@ public final class MountTest {
         wantedDescriptors();
         wantedBehindOthers();
         blockSize();
+        whatNoCheckNames();
         rootsRecord();
         rootsPlace();
         recordsBytes();
@@ -160,6 +161,36 @@ public final class MountTest {
         }
     }
 
+    private static void whatNoCheckNames() {
+        for (int view = 0; view < 3; view++) {
+            Disc d = sample();
+            for (int sector = 16; sector <= 17; sector++) {
+                for (int i : new int[] {7, 8, 72, 80, 84, 91, 120, 122, 124, 132, 136, 140, 148, 152, 190, 881}) {
+                    d.poke(sector * SECTOR + i, 77);
+                }
+                for (int i : new int[] {1, 18, 24, 26, 27, 33}) {
+                    d.poke(sector * SECTOR + 156 + i, 77);
+                }
+            }
+            d.poke(18 * SECTOR + 7, 77);
+            d.poke(18 * SECTOR + 128, 77);
+            d.mounts("other bytes of descriptors", view, view == 1 ? 4 : 5);
+        }
+        Disc d = new Disc();
+        d.link(0, "a", "t".repeat(200));
+        d.link(0, "b", "u");
+        d.master();
+        for (String part : new String[] {"PX", "NM", "CE"}) {
+            d.poke(d.part(d.record(23, 2), part) + 3, 0);
+        }
+        d.poke(d.part(d.record(23, 3), "SL") + 3, 255);
+        d.poke(23 * SECTOR + 34 + 4, 77);
+        d.poke(d.part(23 * SECTOR, "PX") + 3, 2);
+        d.mounts("other bytes of parts", 2, 3);
+        Check.same("its target", d.targetOf(1), "t".repeat(200));
+        Check.same("its target", d.targetOf(2), "u");
+    }
+
     private static void rootsRecord() {
         for (int view = 0; view < 3; view++) {
             int at = (view == 1 ? Disc.SECOND : Disc.FIRST) + 156;
@@ -170,8 +201,14 @@ public final class MountTest {
             d.poke(at, 33);
             d.wrong("root's bytes", view, at);
             d = sample();
-            d.poke(at + 2, 1);
-            d.wrong("root's halves", view, at);
+            for (int i = 2; i < 32; i++) {
+                if (i < 18 || i >= 28) {
+                    d.poke(at + i, d.byteAt(at + i) ^ 32);
+                    d.wrong("root's byte " + i, view, at);
+                    d.poke(at + i, d.byteAt(at + i) ^ 32);
+                }
+            }
+            d.mounts("mended", view, view == 1 ? 4 : 5);
             d = sample();
             d.writeBoth(at + 10, 4, 0);
             d.wrong("root's size", view, at);
@@ -923,8 +960,8 @@ public final class MountTest {
         int total = d.sectors();
         int[][] wrong = {{total, 0, 4}, {-1, 0, 4}, {25, -1, 4}, {25, 0, -1}, {25, 1, 2048}, {25, 2047, 2},
             {25, 2048, 1}, {24, 0, 2049}, {25, Integer.MAX_VALUE, Integer.MAX_VALUE}, {Integer.MIN_VALUE, 0, 4},
-            {25, Integer.MIN_VALUE, 4}, {25, 0, Integer.MIN_VALUE}, {25 + (1 << 24), 0, 207}, {25, 1 << 24, 207}, {25, 0, (1 << 24) + 207},
-            {25 + (1 << 16), 0, 207}, {25, 1 << 16, 207}, {25, 0, (1 << 16) + 207}};
+            {25, Integer.MIN_VALUE, 4}, {25, 0, Integer.MIN_VALUE}, {25 + (1 << 24), 0, 207}, {25, 1 << 24, 207},
+            {25, 0, (1 << 24) + 207}, {25 + (1 << 16), 0, 207}, {25, 1 << 16, 207}, {25, 0, (1 << 16) + 207}};
         for (int[] w : wrong) {
             d.writeContinuation(ce, w[0], w[1], w[2]);
             d.wrong("CE to " + w[0] + " " + w[1] + " " + w[2], 2, ce);
