@@ -1025,11 +1025,14 @@ public final class DiscMaker {
         private int parent, depth, sort, size, sector;
         private int mode, owner, group;
         private int nameLength, targetLength;
+        /** By the record's mark: the sort may become a link's by the mode, and the sector stays taken. */
+        private boolean marked;
 
         void begin(int newParent, int newDepth, boolean directory, int newSize, int newSector) {
             parent = newParent;
             depth = newDepth;
             sort = directory ? DIRECTORY : FILE;
+            marked = directory;
             size = newSize;
             sector = newSector;
             mode = 0;
@@ -1084,7 +1087,6 @@ public final class DiscMaker {
         private boolean named;
         private int components;
         private boolean topAlone;
-        private int continuations;
         private int lastContinuation;
 
         PartsReader(Bytes image) {
@@ -1097,7 +1099,6 @@ public final class DiscMaker {
             named = false;
             components = 0;
             topAlone = false;
-            continuations = 0;
             int from = begin;
             int to = end;
             for (int run = 0; run <= MAX_CONTINUATIONS; run++) {
@@ -1112,6 +1113,10 @@ public final class DiscMaker {
                 }
                 if (lastContinuation == NONE) {
                     break;
+                }
+                // Only a CE that is followed counts: one that a later one replaces does not use the record's five up.
+                if (run == MAX_CONTINUATIONS) {
+                    return lastContinuation;
                 }
                 from = image.low(lastContinuation + 4, 4) * SECTOR + image.low(lastContinuation + 12, 4);
                 to = from + image.low(lastContinuation + 20, 4);
@@ -1198,7 +1203,7 @@ public final class DiscMaker {
         }
 
         private boolean takeContinuation(int at, int bytes) {
-            if (bytes != CE_BYTES || continuations == MAX_CONTINUATIONS) {
+            if (bytes != CE_BYTES) {
                 return false;
             }
             for (int i = 4; i < CE_BYTES; i += 8) {
@@ -1206,7 +1211,6 @@ public final class DiscMaker {
                     return false;
                 }
             }
-            continuations++;
             lastContinuation = at;
             int sector = image.low(at + 4, 4);
             long place = image.low(at + 12, 4);
@@ -1368,7 +1372,7 @@ public final class DiscMaker {
 
         private boolean isTaken(int sector) {
             for (int k = 0; k < count; k++) {
-                if (rows[k].sort == DIRECTORY && rows[k].sector == sector) {
+                if (rows[k].marked && rows[k].sector == sector) {
                     return true;
                 }
             }

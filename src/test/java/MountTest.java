@@ -23,7 +23,10 @@ public final class MountTest {
         byteZeroLeadsToTheNextSector();
         directoriesThatMeet();
         directoriesOfOtherSorts();
+        markedLinksThatMeet();
+        linksThatMeetDirectories();
         depth();
+        depthOfMarkedLinks();
         hundredthNode();
         namesOfTheFirstView();
         namesOfTheSecondView();
@@ -36,6 +39,9 @@ public final class MountTest {
         targetsTooLong();
         partCE();
         manyCE();
+        severalCEInTheRecord();
+        severalCEInEachRun();
+        sixthCE();
         sortsByMode();
         rootsParts();
         firstWrongPlace();
@@ -526,6 +532,73 @@ public final class MountTest {
         e.mounts("the second tree's directory has them", 0, 6);
         Check.same("its sort", e.node(1, 1), 0);
         Check.same("its node", e.node(4, 0), 1);
+    }
+
+    /** What has mark 2 is a directory for this check, whatever the modes make of it. */
+    private static void markedLinksThatMeet() {
+        for (int links = 0; links < 8; links++) {
+            Disc d = new Disc();
+            d.directory(0, "a");
+            d.directory(0, "b");
+            d.master();
+            int a = d.record(23, 2);
+            int b = d.record(23, 3);
+            int[] places = {23 * SECTOR, a, b};
+            for (int i = 0; i < 3; i++) {
+                if ((links >> i & 1) == 1) {
+                    d.writeBoth(d.part(places[i], "PX") + 4, 4, 40960);
+                }
+            }
+            d.mounts("links " + links + ", each at its own sector", 2, 3);
+            for (int k = 0; k < 3; k++) {
+                Check.same("links " + links + ", sort of node " + k, d.node(k, 1), (links >> k & 1) * 2);
+            }
+            for (int sector = 23; sector < 25; sector++) {
+                d.writeBoth(b + 2, 4, sector);
+                d.wrong("links " + links + ", b lies at " + sector, 2, b);
+                d.wrong("links " + links + ", b lies at " + sector, 0, b);
+            }
+            d.writeBoth(b + 2, 4, 25);
+            d.writeBoth(a + 2, 4, 23);
+            d.wrong("links " + links + ", a lies where the root does", 2, a);
+        }
+    }
+
+    /** A record without the mark is no directory for it, even if its mode says so. */
+    private static void linksThatMeetDirectories() {
+        int[] modes = {40960, 16384, 32768, 0};
+        for (int mode : modes) {
+            Disc d = new Disc();
+            d.file(0, "a", 2048, 1);
+            d.directory(0, "b");
+            d.file(0, "c", 2048, 2);
+            d.master();
+            int b = d.record(23, 3);
+            for (int k = 2; k < 5; k += 2) {
+                d.writeBoth(d.record(23, k) + 2, 4, 24);
+                d.writeBoth(d.part(d.record(23, k), "PX") + 4, 4, mode);
+            }
+            d.mounts("mode " + mode + " without the mark ahead of and behind a directory", 2, 4);
+            Check.same("mode " + mode + ", its sort", d.node(1, 1), mode == 40960 ? 2 : 1);
+            Check.same("mode " + mode + ", the directory's sort", d.node(2, 1), 0);
+            d.writeBoth(b + 2, 4, 23);
+            d.wrong("mode " + mode + ", the directory lies where the root does", 2, b);
+        }
+    }
+
+    private static void depthOfMarkedLinks() {
+        Disc d = new Disc();
+        for (int n = 0; n < 7; n++) {
+            d.directory(n, "d");
+        }
+        d.file(7, "f", 2048, 0);
+        d.master();
+        int at = d.record(30, 2);
+        Check.same("the deepest one's file", d.identifier(at), "F.;1");
+        d.writeBoth(d.part(at, "PX") + 4, 4, 40960);
+        d.mounts("a link at a depth of 9", 2, 9);
+        d.poke(at + 25, 2);
+        d.wrong("with mark 2", 2, at);
     }
 
     private static void depth() {
@@ -1019,6 +1092,79 @@ public final class MountTest {
         d.wrong("a CE in the record to itself", 2, ce);
     }
 
+    /** Of several in the same bytes the last one alone is gone through, and it alone counts. */
+    private static void severalCEInTheRecord() {
+        Disc d = new Disc();
+        d.file(0, "a", 2048, 0);
+        d.master();
+        int record = d.record(23, 2);
+        int first = record + d.byteAt(record);
+        int contents = d.low(record + 2, 4);
+        d.writePart(contents * SECTOR, "NM", 0, 'x');
+        d.writePart(contents * SECTOR + 6, "NM", 0, 'y');
+        for (int n = 1; n <= 6; n++) {
+            d.poke(record, 80 + 28 * n);
+            d.writeContinuation(first + 28 * (n - 1), contents, 6, 6);
+            d.mounts(n + " CE in the record", 2, 2);
+            Check.same(n + " CE in the record, name", d.nameOf(1), "ay");
+            d.writeContinuation(first + 28 * (n - 1), contents, 0, 6);
+            d.mounts(n + " CE in the record", 2, 2);
+            Check.same(n + " CE in the record, the last one's name", d.nameOf(1), "ax");
+        }
+        d.poke(first + 4, 1);
+        d.wrong("halves of one that is not gone through", 2, first);
+        d.writeContinuation(first, d.sectors(), 0, 6);
+        d.wrong("one outside of the image that is not gone through", 2, first);
+        d.writeContinuation(first, contents, 0, 6);
+        d.writeContinuation(first + 28 * 5, d.sectors(), 0, 6);
+        d.wrong("the last one outside of the image", 2, first + 28 * 5);
+    }
+
+    /** Five runs of two CE each, of which the second one leads to the next run: eleven CE with the record's. */
+    private static Disc runsOfTwo() {
+        Disc d = new Disc();
+        d.link(0, "a", "t".repeat(200));
+        d.master();
+        for (int i = 0; i < 5; i++) {
+            int run = 25 * SECTOR + 100 * i;
+            d.writePart(run, "SL", 0, 0, 1, 'p' + i);
+            d.writeContinuation(run + 8, 25, 0, 64);
+            d.writeContinuation(run + 36, 25, 100 * (i + 1), 64);
+        }
+        d.writeContinuation(d.part(d.record(23, 2), "CE"), 25, 0, 64);
+        return d;
+    }
+
+    private static void severalCEInEachRun() {
+        Disc d = runsOfTwo();
+        int fifth = 25 * SECTOR + 400;
+        d.wrong("the fifth run has two more: the last one is to be gone through", 2, fifth + 36);
+        d.write(fifth + 36, "ZZ");
+        d.wrong("the fifth run has one more", 2, fifth + 8);
+        d.write(fifth + 8, "ZZ");
+        d.mounts("nine CE, five of them gone through", 2, 2);
+        Check.same("their order", d.targetOf(1), "p/q/r/s/t");
+        d.writeContinuation(25 * SECTOR + 300 + 36, 25, 500, 0);
+        d.mounts("the fifth one without bytes", 2, 2);
+        Check.same("their order", d.targetOf(1), "p/q/r/s");
+    }
+
+    /** The fifth run is gone through to its end before the sixth one's turn comes. */
+    private static void sixthCE() {
+        Disc d = runsOfTwo();
+        int sixth = 25 * SECTOR + 400 + 36;
+        d.writeContinuation(sixth, 25, 2048, 0);
+        d.wrong("the sixth one without bytes", 2, sixth);
+        d.writeContinuation(sixth, d.sectors(), 0, 0);
+        d.wrong("the sixth one outside of the image", 2, sixth);
+        d.poke(sixth + 2, 3);
+        d.wrong("a part that is none behind a CE", 2, sixth);
+        d.poke(sixth + 2, 28);
+        d.write(sixth, "NM");
+        d.poke(sixth + 4, 1);
+        d.wrong("an NM that is wrong behind a CE", 2, sixth);
+    }
+
     private static void sortsByMode() {
         Disc d = sample();
         int px = d.part(d.record(23, 2), "PX");
@@ -1037,6 +1183,12 @@ public final class MountTest {
         d.writeBoth(link + 4, 4, 33188);
         d.mount(2);
         Check.same("a link with a file's mode", d.node(3, 1), 1);
+        int directory = d.part(d.record(23, 3), "PX");
+        d.writeBoth(directory + 4, 4, 40960);
+        d.mounts("a directory with a link's mode is not gone through", 2, 4);
+        Check.same("its sort", d.node(2, 1), 2);
+        d.mounts("by view 0 it is", 0, 5);
+        Check.same("its sort by view 0", d.node(2, 1), 0);
     }
 
     private static void rootsParts() {
